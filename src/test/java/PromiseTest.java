@@ -514,6 +514,7 @@ public final class PromiseTest {
         CopyBench all = sheets(8, 2, "0bbbbbbbb;1bbbbbbbb");
         all.use(5, 4);
         just(all, 2, 32, 1, 65536);
+        odds(all, 0, 1, 2, 1, 65536);
     }
 
     private static void promise20() {
@@ -653,6 +654,20 @@ public final class PromiseTest {
         due("25 none such below", x.pairOdds(-1, 0), NO);
         due("25 no part", x.pairOdds(0, 2), NO);
         due("25 no part below", x.pairOdds(0, -1), NO);
+        CopyBench y = sheets(1, 2, "0b;1c");
+        y.candidate();
+        y.gives(2, 0, 1);
+        y.use(0, 3);
+        ratio("25 by BOUND", y.pairOdds(0, 0), y.pairOdds(0, 1), 1, 3);
+        CopyBench z = sheets(2, 2, "0bb;1bc");
+        z.use(0, 3);
+        z.model(1, 1);
+        z.part(1, 1, 3);
+        // Of the second item's wrong ones b is 3 by 5, c 1 by 5: 1 - 2/3 * 2/5 and 1 - 2/3 * 4/5.
+        ratio("25 the lesser by BOUND", z.pairOdds(0, 0), z.pairOdds(0, 1), 7, 15);
+        z.use(0, 2);
+        // And of all 3 by 6 and 1 by 6: 1 - 3/4 * 1/2 and 1 - 3/4 * 5/6.
+        ratio("25 the lesser by SOURCE", z.pairOdds(0, 0), z.pairOdds(0, 1), 3, 8);
         x.use(3, 1);
         due("25 no pairs", x.pairOdds(0, 0), NO);
     }
@@ -679,6 +694,10 @@ public final class PromiseTest {
         due("27 who", x.linked(0), 6);
         due("27 in both directions", x.linked(2), 3);
         due("27 nobody", x.linked(3), 0);
+        x.gives(0, 0, -1);
+        x.gives(0, 1, -1);
+        due("27 nobody any more", x.linked(0), 0);
+        due("27 the others still", x.linked(1), 4);
         due("27 no candidate", x.linked(5), -1);
         due("27 no candidate below", x.linked(-1), -1);
     }
@@ -1079,6 +1098,9 @@ public final class PromiseTest {
         due("45 as they were, too", x.peek(0, 0) * 100 + x.peek(0, 1) * 10 + x.peek(0, 2), 123);
         due("45 to another", x.shift(0, 1, 1, 1, 2), 2);
         due("45 there", x.peek(1, 0) * 100 + x.peek(1, 1) * 10 + x.peek(1, 2), 23);
+        due("45 a whole one", x.shift(1, 0, 0, 0, 3), 3);
+        due("45 a whole one to a whole one", x.shift(1, 0, 1, 0, 3), 3);
+        due("45 the whole one is there", x.peek(0, 0) * 100 + x.peek(0, 1) * 10 + x.peek(0, 2), 23);
         due("45 none at the end", x.shift(0, 5, 1, 3, 0), 0);
         due("45 none beyond the end", x.shift(0, 6, 1, 0, 0), -13);
         due("45 beyond one's end", x.shift(0, 3, 1, 0, 3), -13);
