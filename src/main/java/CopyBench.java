@@ -7,6 +7,8 @@ public final class CopyBench {
     private static final int NOTHING = -11, CAST = -12, PLACE = -13, SIZE = -14, SHORT_OF = 100;
     private static final int MOST_ITEMS = 8, ANSWERS = 4, MOST_CANDIDATES = 8, MOST_PAIRS = 28;
     private static final int MOST_SEEN = 5, MOST_PLAN = 8, PLACES = 10;
+    // As the item that is left out: none is.
+    private static final int NO_ITEM = -1;
     private static final int EVEN = 0, TOLD = 1, LEARNT = 2, BARE = 3;
     private static final int FREE = 0, GIVEN = 1, SOURCE = 2, BOUND = 3, SUPPOSITIONS = 4;
     private static final int EACH = 0, FAMILY = 1, STEPS = 2, MISTAKES = 3;
@@ -224,7 +226,8 @@ public final class CopyBench {
         if (!now.hasTwo(x, y) || !isSupposition(by) || !isPart(part)) {
             return NO;
         }
-        odds.asGreat(now, x, y, by, first);
+        odds.spread(now, x, y, by, NO_ITEM);
+        odds.asGreat(first);
         return first.half(part);
     }
 
@@ -232,7 +235,8 @@ public final class CopyBench {
         if (!now.hasTwo(x, y) || !isSupposition(by) || k < 0 || k > MOST_LIKENESS || !isPart(part)) {
             return NO;
         }
-        odds.exactly(now, x, y, by, k, first);
+        odds.spread(now, x, y, by, NO_ITEM);
+        odds.exactly(k, first);
         return first.half(part);
     }
 
@@ -240,8 +244,10 @@ public final class CopyBench {
         if (!now.hasTwo(x, y)) {
             return NONE;
         }
-        odds.asGreat(now, x, y, SOURCE, first);
-        odds.asGreat(now, y, x, SOURCE, second);
+        odds.spread(now, x, y, SOURCE, NO_ITEM);
+        odds.asGreat(first);
+        odds.spread(now, y, x, SOURCE, NO_ITEM);
+        odds.asGreat(second);
         int order = first.against(second);
         if (order == 0) {
             return NEITHER;
@@ -253,7 +259,8 @@ public final class CopyBench {
         if (!now.hasTwo(x, y) || !now.hasItem(item) || !isPart(part)) {
             return NO;
         }
-        odds.asGreatWithout(now, x, y, item, first);
+        odds.spread(now, x, y, FREE, item);
+        odds.asGreat(first);
         return first.half(part);
     }
 
@@ -262,9 +269,11 @@ public final class CopyBench {
             return NONE;
         }
         int best = 0;
-        odds.asGreatWithout(now, x, y, best, first);
+        odds.spread(now, x, y, FREE, best);
+        odds.asGreat(first);
         for (int item = 1; item < now.items; item++) {
-            odds.asGreatWithout(now, x, y, item, second);
+            odds.spread(now, x, y, FREE, item);
+            odds.asGreat(second);
             if (second.against(first) > 0) {
                 best = item;
                 first.copy(second);
@@ -558,7 +567,7 @@ public final class CopyBench {
     }
 
     private void linkNow() {
-        rankNow();
+        ranking.order(now, odds, now.used[SUPPOSITION]);
         links.take(ranking);
     }
 
@@ -968,6 +977,7 @@ public final class CopyBench {
     private static final class Odds {
         final int[] shares = new int[ANSWERS];
         int sum = 0;
+        private long squares = 0;
         // In how many of all ways the likeness is 0, 1, ..; 144 ways an item at most, so that they fit into a long.
         private final long[] ways = new long[MOST_LIKENESS + 1];
         private long allWays = 1;
@@ -976,18 +986,38 @@ public final class CopyBench {
         private long alikeWrong = 0;
         private long any = 1;
 
-        void asGreat(Exam exam, int x, int y, int by, Ratio to) {
-            spread(exam, x, y, by, -1);
-            putTail(to);
+        /** In how many ways each likeness of two comes, as if neither had answered the item but. */
+        void spread(Exam exam, int x, int y, int by, int but) {
+            for (int k = 1; k <= MOST_LIKENESS; k++) {
+                ways[k] = 0;
+            }
+            ways[0] = 1;
+            allWays = 1;
+            likeness = 0;
+            int worthRight = exam.used[WORTH_RIGHT];
+            int worthWrong = exam.used[WORTH_WRONG];
+            int top = 0;
+            for (int item = 0; item < exam.items; item++) {
+                if (item != but && exam.bothGave(item, x, y)) {
+                    takeShares(exam, item, x, y);
+                    weigh(exam, item, x, y, by);
+                    top = Math.min(top + Math.max(worthRight, worthWrong), MOST_LIKENESS);
+                    addItem(top, worthRight, worthWrong);
+                    likeness += exam.likenessAt(item, x, y);
+                }
+            }
         }
 
-        void asGreatWithout(Exam exam, int x, int y, int item, Ratio to) {
-            spread(exam, x, y, FREE, item);
-            putTail(to);
+        /** How likely the likeness that was spread last would be as great as it is, or greater. */
+        void asGreat(Ratio to) {
+            long tail = 0;
+            for (int k = likeness; k <= MOST_LIKENESS; k++) {
+                tail += ways[k];
+            }
+            to.put(tail, allWays);
         }
 
-        void exactly(Exam exam, int x, int y, int by, int k, Ratio to) {
-            spread(exam, x, y, by, -1);
+        void exactly(int k, Ratio to) {
             to.put(ways[k], allWays);
         }
 
@@ -1000,8 +1030,10 @@ public final class CopyBench {
                 learn(exam, item, kind == BARE ? x : -1, kind == BARE ? y : -1);
             }
             sum = 0;
+            squares = 0;
             for (int answer = 0; answer < ANSWERS; answer++) {
                 sum += shares[answer];
+                squares += (long) shares[answer] * shares[answer];
             }
         }
 
@@ -1010,34 +1042,6 @@ public final class CopyBench {
                 int answer = exam.given[c][item];
                 if (answer >= 0 && c != butX && c != butY) {
                     shares[answer]++;
-                }
-            }
-        }
-
-        private void putTail(Ratio to) {
-            long tail = 0;
-            for (int k = likeness; k <= MOST_LIKENESS; k++) {
-                tail += ways[k];
-            }
-            to.put(tail, allWays);
-        }
-
-        private void spread(Exam exam, int x, int y, int by, int but) {
-            for (int k = 1; k <= MOST_LIKENESS; k++) {
-                ways[k] = 0;
-            }
-            ways[0] = 1;
-            allWays = 1;
-            likeness = 0;
-            int worthRight = exam.used[WORTH_RIGHT];
-            int worthWrong = exam.used[WORTH_WRONG];
-            int top = 0;
-            for (int item = 0; item < exam.items; item++) {
-                if (item != but && exam.bothGave(item, x, y)) {
-                    weigh(exam, item, x, y, by);
-                    top = Math.min(top + Math.max(worthRight, worthWrong), MOST_LIKENESS);
-                    addItem(top, worthRight, worthWrong);
-                    likeness += exam.likenessAt(item, x, y);
                 }
             }
         }
@@ -1058,41 +1062,24 @@ public final class CopyBench {
             allWays *= any;
         }
 
+        /** By GIVEN and BOUND who was right stays right, which leaves one answer. */
         private void weigh(Exam exam, int item, int x, int y, int by) {
-            takeShares(exam, item, x, y);
             int key = exam.key[item];
             int answer = exam.given[x][item];
+            boolean oneRight = answer == key;
             boolean otherRight = exam.given[y][item] == key;
-            switch (by) {
-                case FREE:
-                    put((long) shares[key] * shares[key], wrongSquares(key), (long) sum * sum);
-                    break;
-                case GIVEN:
-                    weighGiven(key, answer == key, otherRight);
-                    break;
-                case SOURCE:
-                    put(answer == key ? shares[key] : 0, answer == key ? 0 : shares[answer], sum);
-                    break;
-                default:
-                    weighBound(key, answer, otherRight);
-                    break;
-            }
-        }
-
-        private void weighGiven(int key, boolean oneRight, boolean otherRight) {
-            if (oneRight || otherRight) {
+            long wrong = sum - shares[key];
+            long rightSquare = (long) shares[key] * shares[key];
+            if (by == FREE) {
+                put(rightSquare, squares - rightSquare, (long) sum * sum);
+            } else if (by == SOURCE) {
+                put(oneRight ? shares[key] : 0, oneRight ? 0 : shares[answer], sum);
+            } else if (oneRight || otherRight) {
                 put(oneRight && otherRight ? 1 : 0, 0, 1);
+            } else if (by == GIVEN) {
+                put(0, squares - rightSquare, wrong * wrong);
             } else {
-                long wrong = sum - shares[key];
-                put(0, wrongSquares(key), wrong * wrong);
-            }
-        }
-
-        private void weighBound(int key, int answer, boolean otherRight) {
-            if (answer == key || otherRight) {
-                put(answer == key && otherRight ? 1 : 0, 0, 1);
-            } else {
-                put(0, shares[answer], sum - shares[key]);
+                put(0, shares[answer], wrong);
             }
         }
 
@@ -1100,16 +1087,6 @@ public final class CopyBench {
             alikeRight = right;
             alikeWrong = wrong;
             any = all;
-        }
-
-        private long wrongSquares(int key) {
-            long found = 0;
-            for (int answer = 0; answer < ANSWERS; answer++) {
-                if (answer != key) {
-                    found += (long) shares[answer] * shares[answer];
-                }
-            }
-            return found;
         }
     }
 
@@ -1164,9 +1141,11 @@ public final class CopyBench {
         }
 
         private void weighPair(Exam exam, Odds odds, int x, int y, int by) {
-            odds.asGreat(exam, x, y, by, one);
+            odds.spread(exam, x, y, by, NO_ITEM);
+            odds.asGreat(one);
             if (by == SOURCE || by == BOUND) {
-                odds.asGreat(exam, y, x, by, turned);
+                odds.spread(exam, y, x, by, NO_ITEM);
+                odds.asGreat(turned);
                 if (turned.against(one) < 0) {
                     one.copy(turned);
                 }
