@@ -36,9 +36,32 @@ final class Benches {
         return x;
     }
 
-    /** Three items, three candidates, some of everything; of the rows one is empty, one tape holds nothing. */
+    /** More candidates than items; of the rest what some() has. */
+    static CopyBench crowd() {
+        CopyBench x = with(2, 6);
+        tell(x, "0bc;1bc;2cb;5-d");
+        for (int c = 0; c < 5; c++) {
+            x.seat(c, 0, c);
+        }
+        x.model(1, 3);
+        x.use(2, 200);
+        x.see(5, 0, false);
+        x.plan(3, 5, 0);
+        tapes(x);
+        return x;
+    }
+
+    private static void tapes(CopyBench x) {
+        int[] sizes = {4, 3, 0, 2, 2};
+        for (int sort = 0; sort < sizes.length; sort++) {
+            x.tape(sort, sort, sizes[sort]);
+            x.item(sort, 1, sort + 1);
+        }
+    }
+
+    /** Four items, three candidates, some of everything; of the rows one is empty, one tape holds nothing. */
     static CopyBench some() {
-        CopyBench x = sheets(3, 2, "0bc-;1bca");
+        CopyBench x = sheets(4, 2, "0bc-;1bca");
         x.part(0, 1, 2);
         x.image();
         x.candidate();
@@ -57,11 +80,7 @@ final class Benches {
         x.see(2, 1, false);
         x.plan(0, 0, 0);
         x.plan(3, 2, 1);
-        int[] sizes = {4, 3, 0, 2, 2};
-        for (int sort = 0; sort < sizes.length; sort++) {
-            x.tape(sort, sort, sizes[sort]);
-            x.item(sort, 1, sort + 1);
-        }
+        tapes(x);
         feed(x, "0da;1-");
         return x;
     }

@@ -174,6 +174,10 @@ public final class EdgeTest {
             was = answer == -1 ? -5 : answer;
             due("7 it is", x.answer(7, 7), was);
         }
+        x.gives(6, 2, 1);
+        due("7 neither the item's nor the candidate's number twice", x.gives(6, 2, 3), 1);
+        due("7 nor turned around", x.gives(2, 6, 0), -5);
+        due("7 it stays", x.answer(6, 2), 3);
         x.gives(0, 0, 3);
         due("7 the first one's", x.gives(0, 0, 0), 3);
         due("7 nobody else's", x.answer(1, 0), -5);
@@ -328,7 +332,9 @@ public final class EdgeTest {
         int[] most = {3, 3, 500, 9, 2, 4};
         int[] was = {0, 0, 50, 0, 0, 1};
         for (int what = 0; what < 6; what++) {
-            for (int v : new int[] {least[what], least[what] + 1, most[what], most[what], most[what] - 1, least[what]}) {
+            int low = least[what];
+            int high = most[what];
+            for (int v : new int[] {low, low + 1, high, high, high - 1, low}) {
                 due("11 use " + what + " " + v, x.use(what, v), was[what]);
                 was[what] = v;
                 due("11 in use " + what, x.count(6 + what), v);
@@ -527,6 +533,7 @@ public final class EdgeTest {
         due("39 of all eight", Benches.full().image(), 8);
         imageKeeps(Benches::some, 3);
         imageKeeps(Benches::full, 8);
+        imageRows();
         CopyBench z = Benches.with(2, 2);
         z.image();
         z.feed('0');
@@ -543,6 +550,44 @@ public final class EdgeTest {
         z.gives(1, 1, 3);
         z.undo();
         due("40 the same again", z.answer(1, 1), 1);
+    }
+
+    /** What is seen and planned is kept row by row, as it was told. */
+    private static void imageRows() {
+        CopyBench x = Benches.sheets(4, 3, "0bbbb;1bbbb;2cccc");
+        x.see(0, 1, true);
+        x.see(1, 2, false);
+        x.plan(3, 2, 0);
+        x.plan(1, 0, 0);
+        x.image();
+        boolean[][] others = {{true, true}, {false, false}, {false, true}};
+        for (boolean[] other : others) {
+            x.see(-1, 0, true);
+            x.see(0, 1, other[0]);
+            x.see(1, 2, other[1]);
+            due("40 other rows don't fit", x.fits(0), 0);
+            x.undo();
+            due("40 what was seen fits again", x.fits(0), 4);
+        }
+        int[][] seen = {{0, 2, 1, 2}, {0, 1, 0, 1}, {2, 1, 1, 2}};
+        for (int[] row : seen) {
+            x.see(-1, 0, true);
+            x.see(row[0], row[1], true);
+            x.see(row[2], row[3], false);
+            due("40 others seen don't fit", x.fits(0), 0);
+            x.undo();
+            due("40 those seen fit again", x.fits(0), 4);
+        }
+        int[][] plans = {{0, 2, 0}, {3, 0, 2}, {3, 2, 1}, {2, 1, 1}};
+        int[] ends = {1, 1, 3, 1};
+        for (int i = 0; i < plans.length; i++) {
+            x.plan(-1, 0, 0);
+            x.plan(plans[i][0], plans[i][1], plans[i][2]);
+            due("40 another plan ends so, " + i, x.ends(), ends[i]);
+            x.undo();
+            due("40 the plan ends as it did, " + i, x.ends(), 3);
+            due("40 its rows, " + i, x.count(4), 2);
+        }
     }
 
     /** Whatever changes is as it was then, and the image does not change by it. */
@@ -725,8 +770,8 @@ public final class EdgeTest {
                 CopyBench x = rows(6);
                 due("45 from " + from + " to " + to, x.shift(0, from, 0, to, 3), 3);
                 for (int i = 0; i < 6; i++) {
-                    boolean told = i >= to && i < to + 3;
-                    due("45 from " + from + " to " + to + ": item " + i, x.peek(0, i), told ? from + i - to + 1 : i + 1);
+                    int was = i >= to && i < to + 3 ? from + i - to : i;
+                    due("45 from " + from + " to " + to + ": item " + i, x.peek(0, i), was + 1);
                 }
             }
         }

@@ -14,12 +14,16 @@ public final class OddsEdgeTest {
         promise21();
         promise22();
         promise23Pairs();
+        promise23First();
         promise23Near();
         promise23Each();
         promise23Rules();
         promise24To26();
+        promise26Then();
         promise25();
         promise27To29();
+        promise27Uses();
+        promise23Crowd();
         promise29();
         promise30();
         promise30Six();
@@ -29,6 +33,8 @@ public final class OddsEdgeTest {
         promise34();
         promise35();
         promise37();
+        promise37Rows();
+        promise37Full();
         DUE.end();
     }
 
@@ -102,11 +108,19 @@ public final class OddsEdgeTest {
         odds("one item of both", x, 3, 1, 3);
         CopyBench y = Benches.sheets(2, 2, "0ab;1cb");
         y.use(4, 1);
-        // The first, one right, one wrong, is alike by GIVEN and BOUND never, by FREE and SOURCE in 1/4, as the second is.
+        // The first, one right, one wrong, is alike by GIVEN and BOUND never; by FREE and SOURCE either in 1/4.
         odds("one is right", y, 0, 7, 16);
         odds("one is right", y, 1, 1, 3);
         odds("one is right", y, 2, 7, 16);
         odds("one is right", y, 3, 1, 3);
+        for (int by = 1; by < 4; by += 2) {
+            ratio("18 the other is right by " + by, y.odds(1, 0, by, 0), y.odds(1, 0, by, 1), 1, 3);
+        }
+        ratio("18 the other is right by 2", y.odds(1, 0, 2, 0), y.odds(1, 0, 2, 1), 7, 16);
+        y.use(4, 2);
+        for (int by = 1; by < 4; by += 2) {
+            ratio("19 one right and one wrong are never alike", y.just(0, 1, by, 2, 0), y.just(1, 0, by, 2, 0), 0, 0);
+        }
         CopyBench z = Benches.sheets(1, 2, "0a;1a");
         z.use(4, 1);
         odds("both are right", z, 0, 1, 4);
@@ -231,10 +245,26 @@ public final class OddsEdgeTest {
         x.model(6, 1);
         x.part(6, 0, 3);
         due("22 of two like ones the first", x.key(1, 0), 6);
+        for (int item = 0; item < 8; item++) {
+            CopyBench z = Benches.sheets(8, 2, "0bbbbbbbb;1bbbbbbbb");
+            z.model(item, 1);
+            z.part(item, 0, 3);
+            due("22 each ITEM, " + item, z.key(0, 1), item);
+            CopyBench only = Benches.with(8, 2);
+            only.gives(0, item, 1);
+            only.gives(1, item, 1);
+            due("22 the only one of both, " + item, only.key(0, 1), item);
+        }
         due("22 the only ITEM", Benches.sheets(1, 2, "0b;1b").key(0, 1), 0);
         due("22 no ANSWERS", Benches.with(8, 2).key(0, 1), 0);
         CopyBench y = Benches.sheets(3, 2, "0c-b;1b-b");
         due("22 the only one alike", y.key(0, 1), 2);
+        CopyBench rare = Benches.sheets(2, 2, "0aa;1aa");
+        rare.use(4, 1);
+        rare.use(5, 4);
+        // With both ITEMS 88/256, which is more than 1/4 WITHOUT either; that is none of the ITEMS.
+        due("22 ODDS with all are greater", rare.odds(0, 1, 0, 0), 11);
+        due("22 an ITEM all the same", rare.key(0, 1), 0);
     }
 
     private static void promise23Pairs() {
@@ -249,6 +279,45 @@ public final class OddsEdgeTest {
             x.use(3, 9);
             due("23 PAIRS without SEATS", x.pairs(0, 0), 0);
         }
+    }
+
+    /** Each asking call is the first that is asked of an object, so that it finds nothing worked out before. */
+    private static void promise23First() {
+        String text = "0bbbb;1bbbb;2bbbb;3cccc";
+        due("23 SUSPECT, asked first", Benches.sheets(4, 4, text).pairs(1, 0), 3);
+        due("23 GROUPS, asked first", Benches.sheets(4, 4, text).pairs(3, 0), 1);
+        due("23 the greatest, asked first", Benches.sheets(4, 4, text).pairs(4, 0), 3);
+        due("24 SUSPECT or not, asked first", Benches.sheets(4, 4, text).pair(2, 2), 1);
+        due("25 ODDS, asked first", Benches.sheets(4, 4, text).pairOdds(2, 0), 81);
+        due("26 RANK, asked first", Benches.sheets(4, 4, text).rank(1, 2), 2);
+        due("27 who, asked first", Benches.sheets(4, 4, text).linked(1), 5);
+        due("28 CHAIN, asked first", Benches.sheets(4, 4, text).chain(1), 7);
+        due("29 GROUP, asked first", Benches.sheets(4, 4, text).group(0), 7);
+        CopyBench x = Benches.sheets(4, 4, text);
+        for (int c = 0; c < 4; c++) {
+            x.seat(c, 0, c);
+        }
+        // The three sit on seats of which 0 and 3 aren't both: on one half of all sets of three.
+        due("30 SEATED, asked first", x.seated(2, 1), 2);
+        // Then each behind a change, so that it finds what was before.
+        for (int item = 0; item < 3; item++) {
+            x.gives(2, item, -1);
+        }
+        due("23 the greatest, behind a change", x.pairs(4, 0), 2);
+        for (int item = 1; item < 4; item++) {
+            x.gives(1, item, -1);
+        }
+        due("29 GROUP, behind a change", x.group(0), -5);
+        for (int item = 1; item < 4; item++) {
+            x.gives(1, item, 1);
+        }
+        due("27 who, behind a change", x.linked(0), 2);
+        x.use(2, 1);
+        due("28 CHAIN, behind a change", x.chain(0), 1);
+        x.use(2, 50);
+        due("30 SEATED, behind a change", x.seated(2, 1), 6);
+        x.use(2, 1);
+        due("24 SUSPECT or not, behind a change", x.pair(0, 2), 0);
     }
 
     private static void promise23Near() {
@@ -308,7 +377,7 @@ public final class OddsEdgeTest {
         }
     }
 
-    /** Odds 1/25, 1/5, 1/5 by SOURCE: m times 120, 600, 600 thousandths, by steps 120, 400, 200, by RANK 120, 300, 200. */
+    /** Odds 40, 200, 200 thousandths by SOURCE: m times 120, 600, 600, by steps 120, 400, 200, by RANK 120, 300, 200. */
     private static void promise23Rules() {
         CopyBench x = Benches.sheets(2, 3, "0bb;1bb;2b-");
         x.use(0, 2);
@@ -318,8 +387,9 @@ public final class OddsEdgeTest {
         }
         int[][] due = {
             // level, suspect by EACH, FAMILY, STEPS, MISTAKES
-            {1, 0, 0, 0, 0}, {39, 0, 0, 0, 0}, {40, 1, 0, 0, 0}, {119, 1, 0, 0, 0}, {120, 1, 1, 1, 1}, {199, 1, 1, 1, 1},
-            {200, 3, 1, 1, 3}, {300, 3, 1, 1, 3}, {399, 3, 1, 1, 3}, {400, 3, 1, 3, 3}, {500, 3, 1, 3, 3}};
+            {1, 0, 0, 0, 0}, {39, 0, 0, 0, 0}, {40, 1, 0, 0, 0}, {119, 1, 0, 0, 0}, {120, 1, 1, 1, 1},
+            {199, 1, 1, 1, 1}, {200, 3, 1, 1, 3}, {300, 3, 1, 1, 3}, {399, 3, 1, 1, 3}, {400, 3, 1, 3, 3},
+            {500, 3, 1, 3, 3}};
         for (int[] row : due) {
             for (int rule = 0; rule < 4; rule++) {
                 due("23 LEVEL " + row[0] + " RULE " + rule, suspects(x, rule, row[0]), row[1 + rule]);
@@ -390,6 +460,27 @@ public final class OddsEdgeTest {
         due("24 no third", y.pair(2, 0), -2);
     }
 
+    /** What was a PAIR and is none any more. */
+    private static void promise26Then() {
+        CopyBench x = Benches.with(1, 3);
+        x.seat(0, 0, 0);
+        x.seat(1, 0, 1);
+        x.seat(2, 9, 9);
+        due("26 a PAIR by REACH 0", x.rank(0, 2), 1);
+        x.use(3, 1);
+        due("26 none by REACH 1", x.rank(0, 2), -5);
+        due("26 nor the last one", x.rank(1, 2), -5);
+        due("26 the near one still", x.rank(0, 1), 0);
+        due("24 no second any more", x.pair(1, 0), -2);
+        due("25 no second any more", x.pairOdds(1, 0), NO);
+        x.seat(1, -1, 0);
+        due("26 none at all", x.rank(0, 1), -5);
+        due("24 none at all", x.pair(0, 0), -2);
+        x.items(1);
+        x.candidate();
+        due("24 one alone", x.pair(0, 0), -2);
+    }
+
     /** The lesser of both ways by SOURCE and BOUND, whichever way it is; by FREE and GIVEN they are the same. */
     private static void promise25() {
         for (int turn = 0; turn < 2; turn++) {
@@ -457,6 +548,53 @@ public final class OddsEdgeTest {
         due("29 no second", all.group(1), -5);
         due("23 eight in the greatest", all.pairs(4, 0), 8);
         due("23 all are SUSPECT", all.pairs(1, 0), 28);
+    }
+
+    /** Who is suspect goes by the SUPPOSITION in use, whatever the RULE's number, and by the REACH. */
+    private static void promise27Uses() {
+        // By FREE, GIVEN, SOURCE, BOUND: 3/16, 1/3, 1/4, 1/3.
+        int[] level = {188, 334, 250, 334};
+        for (int by = 0; by < 4; by++) {
+            for (int rule = 0; rule < 4; rule++) {
+                CopyBench x = Benches.sheets(1, 2, "0b;1b");
+                x.use(0, by);
+                x.use(1, rule);
+                x.use(2, level[by] - 1);
+                String told = " by " + by + " RULE " + rule;
+                due("27 not yet" + told, x.linked(0), 0);
+                due("28 not yet" + told, x.chain(0), 1);
+                due("29 not yet" + told, x.group(0), -5);
+                due("37 not yet" + told, x.ends(), 0);
+                x.use(2, level[by]);
+                due("27 just so" + told, x.linked(0), 2);
+                due("28 just so" + told, x.chain(1), 3);
+                due("29 just so" + told, x.group(0), 3);
+                due("37 just so" + told, x.ends(), 1);
+                x.use(3, 1);
+                due("27 no PAIR" + told, x.linked(0), 0);
+                due("37 no PAIR" + told, x.ends(), 0);
+            }
+        }
+    }
+
+    /** More candidates than ITEMS. */
+    private static void promise23Crowd() {
+        CopyBench x = Benches.sheets(1, 8, "4b;5b;6b;7b");
+        for (int c = 0; c < 8; c++) {
+            x.seat(c, c / 4, c % 4);
+        }
+        due("41 all have SEATS", x.count(2), 8);
+        due("23 NEAR by 1", x.pairs(2, 1), 6 + 4 + 6);
+        due("23 NEAR by 9", x.pairs(2, 9), 28);
+        ratio("35 six of 28", x.mean(0), x.mean(1), 3, 14);
+        x.use(3, 1);
+        due("23 PAIRS", x.pairs(0, 0), 16);
+        ratio("35 three of 16", x.mean(0), x.mean(1), 3, 16);
+        due("14 four of eight", x.itemOf(0, 3), 4);
+        CopyBench y = Benches.sheets(8, 2, "0bbbbbbbb;1bbbbbbbb");
+        due("23 more ITEMS than candidates", y.pairs(0, 0), 1);
+        due("17 all of these", y.alike(0, 1), 8);
+        due("13 all of these", y.of(1, 0), 8);
     }
 
     private static void promise29() {
@@ -553,8 +691,8 @@ public final class OddsEdgeTest {
         return found;
     }
 
-    private static final int[] SEEDS = {0, 1, -1, 12345, 65536, LEAST, LEAST + 1, MOST, MOST - 1, MOST - 5, 1 << 30, -(1 << 30),
-        1103515245, -1103515245};
+    private static final int[] SEEDS = {0, 1, -1, 12345, 65536, LEAST, LEAST + 1, MOST, MOST - 1, MOST - 5, 1 << 30,
+        -(1 << 30), 1103515245, -1103515245};
 
     private static void promise31() {
         CopyBench x = Benches.sheets(8, 3, "0bbbbbbbb;1cccccccc;2b-------");
@@ -611,6 +749,15 @@ public final class OddsEdgeTest {
                     6 / by);
             }
         }
+        x.gives(1, 0, -1);
+        x.gives(0, 7, -1);
+        int[][] fewer = java.util.Arrays.copyOf(ends, 6);
+        int found = 0;
+        for (int i = 0; i < 6; i++) {
+            found += drawn(7 + i, fewer, new int[] {2, 1, 1, 1}) >= 2 ? 1 : 0;
+        }
+        due("32 of ITEMS to which both gave one", x.chance(7, 0, 1, 2, 0) * 6, found * x.chance(7, 0, 1, 2, 1));
+        due("32 in the other order", x.chance(7, 1, 0, 2, 0) * 6, found * x.chance(7, 0, 1, 2, 1));
         ratio("32 k 0 is certain", x.chance(MOST, 0, 1, 0, 0), x.chance(MOST, 0, 1, 0, 1), 1, 1);
         ratio("32 the greatest k", x.chance(LEAST, 0, 1, MOST, 0), x.chance(LEAST, 0, 1, MOST, 1), 0, 1);
         due("32 k below 0", x.chance(0, 0, 1, -1, 0), NO);
@@ -621,7 +768,8 @@ public final class OddsEdgeTest {
         // 3/16 by FREE, 1/3 by GIVEN and BOUND, 1/4 by SOURCE.
         int[][] due = {
             // level, SUSPECT is seen: how many, the least; not SUSPECT is seen: how many, the least
-            {187, 0, -5, 4, 0}, {188, 1, 0, 3, 1}, {249, 1, 0, 3, 1}, {250, 2, 0, 2, 1}, {333, 2, 0, 2, 1}, {334, 4, 0, 0, -5}};
+            {187, 0, -5, 4, 0}, {188, 1, 0, 3, 1}, {249, 1, 0, 3, 1}, {250, 2, 0, 2, 1}, {333, 2, 0, 2, 1},
+            {334, 4, 0, 0, -5}};
         for (int[] row : due) {
             x.use(2, row[0]);
             x.use(0, row[0] % 4);
@@ -725,5 +873,72 @@ public final class OddsEdgeTest {
         x.use(3, 1);
         due("37 no PAIRS", x.ends(), 0);
         due("37 nobody", new CopyBench().ends(), 0);
+    }
+
+    /** Each row of a full plan counts, its v, too, and an image keeps it. */
+    private static void promise37Full() {
+        for (int row = 0; row < 8; row++) {
+            CopyBench x = Benches.sheets(8, 8, "0bbbb;1bbbb");
+            for (int i = 0; i < 8; i++) {
+                // All but one row change nothing: nobody gave an answer to the last ITEM.
+                due("36 a row comes", i == row ? x.plan(3, 7, 1) : x.plan(1, 7, 3), i + 1);
+            }
+            due("37 the one row of eight, " + row, x.ends(), 3);
+            x.image();
+            x.plan(-1, 0, 0);
+            due("37 no plan", x.ends(), 1);
+            x.undo();
+            due("40 the plan, row " + row, x.ends(), 3);
+            x.gives(7, 0, 2);
+            due("37 whatever was there", x.ends(), 3);
+        }
+    }
+
+    /** What goes by a row, and nothing else. */
+    private static void promise37Rows() {
+        // 81/65536 by EVEN.
+        CopyBench x = Benches.sheets(4, 3, "0bbbb;1bbbb;2bbbb");
+        for (int v : new int[] {LEAST, -1, 0, 1, 2, 3, 4, MOST}) {
+            x.plan(-1, 0, 0);
+            x.plan(0, 2, v);
+            x.use(2, 2);
+            due("37 no ANSWERS, v " + v, x.ends(), 1);
+            x.use(2, 1);
+            due("37 no ANSWERS, v " + v + ", by a low LEVEL", x.ends(), 0);
+        }
+        CopyBench y = Benches.sheets(1, 2, "0b;1b");
+        y.part(0, 0, 3);
+        y.part(0, 3, 3);
+        y.plan(1, 0, 2);
+        // RIGHT is c, the KIND still EVEN: 3/16; were it LEARNT, 11/36.
+        y.use(2, 187);
+        due("37 another RIGHT, the KIND stays", y.ends(), 0);
+        y.use(2, 188);
+        due("37 another RIGHT, just so", y.ends(), 1);
+        y.plan(-1, 0, 0);
+        y.plan(2, 0, 1);
+        // PARTS 3, 1, 1, 3, RIGHT still a: 11/64; were b RIGHT, it would be certain.
+        y.use(2, 171);
+        due("37 TOLD", y.ends(), 0);
+        y.use(2, 172);
+        due("37 TOLD, the RIGHT one stays", y.ends(), 1);
+        y.plan(2, 0, 0);
+        due("37 TOLD, then EVEN", y.ends(), 0);
+        y.plan(2, 0, 2);
+        y.plan(1, 0, 3);
+        y.use(2, 305);
+        due("37 LEARNT", y.ends(), 0);
+        y.use(2, 306);
+        due("37 LEARNT, just so", y.ends(), 1);
+        y.plan(2, 0, 3);
+        y.use(2, 188);
+        due("37 BARE", y.ends(), 1);
+        y.use(3, 1);
+        y.seat(0, 3, 3);
+        y.seat(1, 4, 4);
+        y.plan(3, 0, 1);
+        due("37 the SEATS stay", y.ends(), 1);
+        y.plan(0, 1, 0);
+        due("37 none alike at last", y.ends(), 0);
     }
 }

@@ -84,25 +84,9 @@ public final class PromiseTest {
         DUE.is(call, got, want);
     }
 
-    private static CopyBench with(int items, int candidates) {
-        CopyBench x = new CopyBench();
-        x.items(items);
-        for (int i = 0; i < candidates; i++) {
-            x.candidate();
-        }
-        return x;
-    }
-
-    private static int tell(CopyBench x, String text) {
-        for (int i = 0; i < text.length(); i++) {
-            x.feed(text.charAt(i));
-        }
-        return x.read();
-    }
-
     private static CopyBench sheets(int items, int candidates, String text) {
-        CopyBench x = with(items, candidates);
-        due("sheets " + text, tell(x, text), text.split(";").length);
+        CopyBench x = Benches.with(items, candidates);
+        due("10 sheets " + text, Benches.tell(x, text), text.split(";").length);
         return x;
     }
 
@@ -177,7 +161,7 @@ public final class PromiseTest {
     }
 
     private static void promise3() {
-        CopyBench x = with(2, 1);
+        CopyBench x = Benches.with(2, 1);
         due("3 it was", x.right(1, 3), 0);
         due("3 it was then", x.right(1, 2), 3);
         due("3 the other", x.itemOf(0, 0), 0);
@@ -189,7 +173,7 @@ public final class PromiseTest {
     }
 
     private static void promise4() {
-        CopyBench x = with(2, 1);
+        CopyBench x = Benches.with(2, 1);
         for (int kind = 1; kind < 4; kind++) {
             due("4 it was", x.model(1, kind), kind - 1);
         }
@@ -202,7 +186,7 @@ public final class PromiseTest {
     }
 
     private static void promise5() {
-        CopyBench x = with(2, 1);
+        CopyBench x = Benches.with(2, 1);
         due("5 it was", x.part(1, 2, 3), 1);
         due("5 it was then", x.part(1, 2, 2), 3);
         due("5 the other answer", x.part(1, 1, 1), 1);
@@ -227,7 +211,7 @@ public final class PromiseTest {
     }
 
     private static void promise7() {
-        CopyBench x = with(2, 2);
+        CopyBench x = Benches.with(2, 2);
         due("7 none before", x.gives(1, 1, 3), -5);
         due("7 it was", x.gives(1, 1, 0), 3);
         due("7 it was 0", x.gives(1, 1, -1), 0);
@@ -243,7 +227,7 @@ public final class PromiseTest {
     }
 
     private static void promise8() {
-        CopyBench x = with(1, 3);
+        CopyBench x = Benches.with(1, 3);
         due("8 a seat", x.seat(0, 0, 9), 1);
         due("8 another", x.seat(1, 9, 0), 1);
         due("8 its own again", x.seat(1, 9, 0), 1);
@@ -277,39 +261,39 @@ public final class PromiseTest {
     }
 
     private static void promise10() {
-        CopyBench x = with(3, 4);
-        due("10 one", tell(x, "0abc"), 1);
+        CopyBench x = Benches.with(3, 4);
+        due("10 one", Benches.tell(x, "0abc"), 1);
         due("10 the text is empty", x.count(5), 0);
         due("10 an answer", x.answer(0, 2), 2);
-        due("10 two, in order", tell(x, "0d;3dd-;0-a"), 3);
+        due("10 two, in order", Benches.tell(x, "0d;3dd-;0-a"), 3);
         due("10 told none", x.answer(0, 0), -5);
         due("10 told the last", x.answer(0, 1), 0);
         due("10 what isn't told stays", x.answer(0, 2), 2);
         due("10 another's", x.answer(3, 1), 3);
         due("10 another's none", x.answer(3, 2), -5);
-        due("10 four", tell(x, "0a;1b;2c;3d"), 4);
+        due("10 four", Benches.tell(x, "0a;1b;2c;3d"), 4);
         due("10 four's last", x.answer(3, 0), 3);
     }
 
     private static void promise10Faults() {
-        CopyBench x = with(2, 2);
-        due("10 empty", tell(x, ""), -10);
-        due("10 no letter", tell(x, "0"), -11);
-        due("10 a letter first", tell(x, "a"), -10);
-        due("10 no such candidate", tell(x, "2a"), -10);
-        due("10 no such digit", tell(x, "/a"), -10);
-        due("10 too many letters", tell(x, "0abc"), -13);
-        due("10 no such letter", tell(x, "0ae"), -12);
-        due("10 no great letter", tell(x, "0A"), -11);
-        due("10 a blank", tell(x, "0a ;1b"), -12);
-        due("10 a clause without letters", tell(x, "0;1b"), -11);
-        due("10 ends behind ;", tell(x, "0a;"), -13);
-        due("10 ends behind a digit", tell(x, "0a;1"), -14);
-        due("10 five clauses", tell(x, "0a;1b;0c;1d;0a"), -21);
+        CopyBench x = Benches.with(2, 2);
+        due("10 empty", Benches.tell(x, ""), -10);
+        due("10 no letter", Benches.tell(x, "0"), -11);
+        due("10 a letter first", Benches.tell(x, "a"), -10);
+        due("10 no such candidate", Benches.tell(x, "2a"), -10);
+        due("10 no such digit", Benches.tell(x, "/a"), -10);
+        due("10 too many letters", Benches.tell(x, "0abc"), -13);
+        due("10 no such letter", Benches.tell(x, "0ae"), -12);
+        due("10 no great letter", Benches.tell(x, "0A"), -11);
+        due("10 a blank", Benches.tell(x, "0a ;1b"), -12);
+        due("10 a clause without letters", Benches.tell(x, "0;1b"), -11);
+        due("10 ends behind ;", Benches.tell(x, "0a;"), -13);
+        due("10 ends behind a digit", Benches.tell(x, "0a;1"), -14);
+        due("10 five clauses", Benches.tell(x, "0a;1b;0c;1d;0a"), -21);
         due("10 the text is empty", x.count(5), 0);
         due("10 nothing became so", x.of(0, 0) + x.of(1, 0), 0);
-        due("10 nobody", tell(new CopyBench(), "0a"), -10);
-        CopyBench y = with(2, 1);
+        due("10 nobody", Benches.tell(new CopyBench(), "0a"), -10);
+        CopyBench y = Benches.with(2, 1);
         for (int i = 0; i < 60; i++) {
             y.feed(i == 0 ? '0' : 'a');
         }
@@ -386,7 +370,7 @@ public final class PromiseTest {
     }
 
     private static void promise15() {
-        CopyBench x = with(4, 0);
+        CopyBench x = Benches.with(4, 0);
         int[][] due = {{0, 0, -12, -12, -12}, {1, 1, 1, -12, -12}, {2, -12, -12, 2, -12}, {3, -12, -12, 3, 3}};
         for (int kind = 0; kind < 4; kind++) {
             x.model(kind, kind);
@@ -804,7 +788,7 @@ public final class PromiseTest {
     }
 
     private static void promise33() {
-        CopyBench x = with(1, 2);
+        CopyBench x = Benches.with(1, 2);
         for (int i = 1; i <= 5; i++) {
             due("33 it comes", x.see(i % 2, 1 - i % 2, true), i);
         }
@@ -859,7 +843,7 @@ public final class PromiseTest {
     }
 
     private static void promise36() {
-        CopyBench x = with(2, 2);
+        CopyBench x = Benches.with(2, 2);
         due("36 what 0, whatever v", x.plan(0, 1, LEAST), 1);
         due("36 what 1", x.plan(1, 1, 3), 2);
         due("36 what 2", x.plan(2, 0, 3), 3);
@@ -951,7 +935,7 @@ public final class PromiseTest {
     }
 
     private static void promise39() {
-        CopyBench x = with(2, 3);
+        CopyBench x = Benches.with(2, 3);
         due("39 candidates", x.image(), 3);
         x.candidate();
         due("39 another image", x.image(), 4);

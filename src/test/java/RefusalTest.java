@@ -37,7 +37,7 @@ public final class RefusalTest {
         for (RefusalTest test : List.of(new RefusalTest("new", CopyBench::new), some, full)) {
             test.anyState();
         }
-        for (RefusalTest test : List.of(some, full)) {
+        for (RefusalTest test : List.of(some, new RefusalTest("a crowd", Benches::crowd), full)) {
             test.changes();
             test.looks();
             test.likeness();
