@@ -752,12 +752,15 @@ public final class OddsEdgeTest {
         x.gives(1, 0, -1);
         x.gives(0, 7, -1);
         int[][] fewer = java.util.Arrays.copyOf(ends, 6);
-        int found = 0;
-        for (int i = 0; i < 6; i++) {
-            found += drawn(7 + i, fewer, new int[] {2, 1, 1, 1}) >= 2 ? 1 : 0;
+        for (int seed : SEEDS) {
+            int found = 0;
+            for (int i = 0; i < 6; i++) {
+                found += drawn(seed + i, fewer, new int[] {2, 1, 1, 1}) >= 2 ? 1 : 0;
+            }
+            long below = x.chance(seed, 0, 1, 2, 1);
+            due("32 of ITEMS of both, seed " + seed, x.chance(seed, 0, 1, 2, 0) * 6, found * below);
+            due("32 in the other order, seed " + seed, x.chance(seed, 1, 0, 2, 0) * 6, found * below);
         }
-        due("32 of ITEMS to which both gave one", x.chance(7, 0, 1, 2, 0) * 6, found * x.chance(7, 0, 1, 2, 1));
-        due("32 in the other order", x.chance(7, 1, 0, 2, 0) * 6, found * x.chance(7, 0, 1, 2, 1));
         ratio("32 k 0 is certain", x.chance(MOST, 0, 1, 0, 0), x.chance(MOST, 0, 1, 0, 1), 1, 1);
         ratio("32 the greatest k", x.chance(LEAST, 0, 1, MOST, 0), x.chance(LEAST, 0, 1, MOST, 1), 0, 1);
         due("32 k below 0", x.chance(0, 0, 1, -1, 0), NO);
@@ -878,7 +881,7 @@ public final class OddsEdgeTest {
     /** Each row of a full plan counts, its v, too, and an image keeps it. */
     private static void promise37Full() {
         for (int row = 0; row < 8; row++) {
-            CopyBench x = Benches.sheets(8, 8, "0bbbb;1bbbb");
+            CopyBench x = Benches.sheets(8, 8, "1bbbb;2bbbb");
             for (int i = 0; i < 8; i++) {
                 // All but one row change nothing: nobody gave an answer to the last ITEM.
                 due("36 a row comes", i == row ? x.plan(3, 7, 1) : x.plan(1, 7, 3), i + 1);
@@ -886,7 +889,11 @@ public final class OddsEdgeTest {
             due("37 the one row of eight, " + row, x.ends(), 3);
             x.image();
             x.plan(-1, 0, 0);
-            due("37 no plan", x.ends(), 1);
+            due("37 an empty plan", x.ends(), 1);
+            for (int i = 0; i < 8; i++) {
+                x.plan(0, 2, 0);
+            }
+            due("37 another plan", x.ends(), 0);
             x.undo();
             due("40 the plan, row " + row, x.ends(), 3);
             x.gives(7, 0, 2);
