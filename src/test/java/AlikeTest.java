@@ -1,9 +1,21 @@
 import java.lang.reflect.Method;
 
-/** Long runs of calls, by numbers: each answer is that of PlainBench. */
+/**
+ * Long runs of calls, by numbers: each answer is that of PlainBench. There are runs of calls of any numbers, and runs of
+ * calls that are mostly taken, in which sheets stay alike, and each change stands between askings.
+ */
 public final class AlikeTest {
-    private static final int RUNS = 120;
+    private static final int RUNS = 120, CLOSE_RUNS = 400;
     private static final int CALLS = 512;
+    // What is told behind ":" is by letters: see taken(char).
+    private static final String CLOSE_ASKS = "pairs:0,0 pairs:1,0 pairs:1,0 pairs:2,r pairs:3,0 pairs:4,0 pair:k,0"
+        + " pair:k,1 pair:k,2 pair:k,2 pairOdds:k,p pairOdds:k,p rank:c,c rank:c,c linked:c chain:c group:k group:0"
+        + " seated:r,p seated:r,0 seated:r,1 fits:0 fits:1 mean:p ends ends ends share:i,g,c,c alike:c,c odds:c,c,a,p"
+        + " odds:c,c,a,p just:c,c,a,h,p source:c,c source:c,c without:c,c,i,p key:c,c key:c,c drawn:z,c,c"
+        + " chance:z,c,c,h,p answer:c,i of:c,a itemOf:i,4 itemOf:i,a taken:i,4 taken:i,a count:h";
+    private static final String CLOSE_CHANGES = "right:i,a right:i,a model:i,a model:i,a part:i,a,v part:i,a,v candidate"
+        + " seat:c,s,s seat:c,s,s seat:c,-1,s use:0,a use:1,a use:2,l use:2,l use:3,e use:3,e use:4,w use:5,v see:c,c,p"
+        + " see:c,c,p see:-1,0,0 plan:0,c,0 plan:1,i,a plan:2,i,a plan:3,c,c plan:3,c,c plan:-1,0,0 image undo";
     private static final String SUSPECTS = "pairs:-1,5,-1,10 pair:-1,28,-1,3 pairOdds:-1,28,-1,2 rank:-1,8,-1,8"
         + " linked:-1,8 chain:-1,8 group:-1,6 seated:0,10,-1,2 fits:-1,2 mean:-1,2 ends";
     private static final String LIKENESS = "share:-1,8,-2,4,-1,8,-1,8 alike:-1,8,-1,8 odds:-1,8,-1,8,-1,4,-1,2"
@@ -24,11 +36,16 @@ public final class AlikeTest {
     private CopyBench bench = null;
     private PlainBench plain = null;
     private int calls = 0;
+    private final int[] liked = new int[8];
+    private int spread = 4;
 
     public static void main(String[] args) throws Exception {
         AlikeTest test = new AlikeTest();
         for (int run = 0; run < RUNS && test.due.wrong() < 20; run++) {
             test.oneRun(run);
+        }
+        for (int run = RUNS; run < RUNS + CLOSE_RUNS && test.due.wrong() < 20; run++) {
+            test.closeRun(run);
         }
         test.due.end();
     }
@@ -42,13 +59,18 @@ public final class AlikeTest {
         return least + below(most - least + 1);
     }
 
-    private void oneRun(int number) throws Exception {
+    private void start(int number, int seats) throws Exception {
         run = number;
         state = number * 7919L + 17;
         bench = new CopyBench();
         plain = new PlainBench();
         calls = 0;
+        spread = seats;
         begin();
+    }
+
+    private void oneRun(int number) throws Exception {
+        start(number, 4);
         while (calls < CALLS && due.wrong() < 20) {
             int kind = below(20);
             if (kind == 0) {
@@ -69,22 +91,77 @@ public final class AlikeTest {
         int n = between(1, 8);
         call("items", n);
         int candidates = between(0, 8);
-        int[] model = new int[8];
         for (int i = 0; i < 8; i++) {
-            model[i] = between(-1, 3);
+            liked[i] = between(-1, 3);
         }
         for (int c = 0; c < candidates; c++) {
             call("candidate");
             for (int i = 0; i < n; i++) {
-                call("gives", c, i, below(3) > 0 ? model[i] : between(-1, 3));
+                call("gives", c, i, below(3) > 0 ? liked[i] : between(-1, 3));
             }
             if (below(4) > 0) {
-                call("seat", c, between(0, 3), between(0, 3));
+                call("seat", c, below(spread), below(spread));
             }
         }
         for (int i = 0; i < n; i++) {
             call("model", i, between(0, 3));
             call("right", i, between(0, 3));
+        }
+    }
+
+    /** A few askings, a change, a few askings. */
+    private void closeRun(int number) throws Exception {
+        start(number, 2 + number % 9);
+        for (int what = 0; what < 6; what++) {
+            call("use", what, taken("aalewv".charAt(what)));
+        }
+        while (calls < CALLS && due.wrong() < 20) {
+            for (int asked = between(1, 3); asked > 0; asked--) {
+                closeOneOf(CLOSE_ASKS);
+            }
+            int kind = below(16);
+            if (kind == 0) {
+                tellSheets(true);
+            } else if (kind < 5) {
+                int i = (int) taken('i');
+                call("gives", taken('c'), i, below(3) > 0 ? liked[i] : taken('g'));
+            } else if (kind == 5 && below(8) == 0) {
+                begin();
+            } else {
+                closeOneOf(CLOSE_CHANGES);
+            }
+        }
+    }
+
+    private void closeOneOf(String some) throws Exception {
+        String[] all = some.split(" ");
+        String[] told = all[below(all.length)].split(":");
+        String[] letters = told.length < 2 ? new String[0] : told[1].split(",");
+        long[] numbers = new long[letters.length];
+        for (int i = 0; i < numbers.length; i++) {
+            char letter = letters[i].charAt(0);
+            numbers[i] = letter < 'a' ? Long.parseLong(letters[i]) : taken(letter);
+        }
+        call(told[0], numbers);
+    }
+
+    /** A number that a call takes. */
+    private long taken(char letter) {
+        switch (letter) {
+            case 'a': return below(4);
+            case 'c': return below(Math.max(1, plain.count(1)));
+            case 'e': return below(3) == 0 ? 0 : between(1, 9);
+            case 'g': return between(-1, 3);
+            case 'h': return below(below(2) == 0 ? 4 : 33);
+            case 'i': return below(plain.count(0));
+            case 'k': return below(below(2) == 0 ? 4 : 28);
+            case 'l': return new int[] {1, 5, 20, 50, 100, 188, 250, 334, 500}[below(9)] - below(2) * below(2);
+            case 'p': return below(2);
+            case 'r': return between(1, below(2) == 0 ? 3 : 9);
+            case 's': return below(spread);
+            case 'v': return between(1, 3);
+            case 'w': return below(3);
+            default: return (int) state;
         }
     }
 

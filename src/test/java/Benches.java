@@ -51,6 +51,31 @@ final class Benches {
         return x;
     }
 
+    /** Six alike, in a row of seats but for one; those who sit near are suspect, by steps. */
+    static CopyBench nearOnes() {
+        CopyBench x = with(6, 6);
+        tell(x, "0bbbbbb;1bbbbb;2bbbbbc;3bbbbcc");
+        tell(x, "4abb-bb;5abcbbb");
+        for (int c = 0; c < 6; c++) {
+            x.seat(c, c == 2 ? 9 : 0, c);
+        }
+        for (int item = 0; item < 5; item++) {
+            x.model(item, item % 4);
+        }
+        x.part(1, 1, 2);
+        int[] uses = {0, 2, 300, 1, 1, 2};
+        for (int what = 0; what < uses.length; what++) {
+            x.use(what, uses[what]);
+        }
+        x.see(0, 1, true);
+        x.see(4, 2, false);
+        x.plan(3, 3, 2);
+        x.plan(0, 0, 0);
+        tapes(x);
+        feed(x, "5dd");
+        return x;
+    }
+
     private static void tapes(CopyBench x) {
         int[] sizes = {4, 3, 0, 2, 2};
         for (int sort = 0; sort < sizes.length; sort++) {

@@ -15,6 +15,7 @@ public final class EdgeTest {
         promise6();
         promise7();
         promise8();
+        promise8Each();
         promise9();
         promise10();
         promise10Edges();
@@ -33,6 +34,7 @@ public final class EdgeTest {
         promise43();
         promise44();
         promise45();
+        promise45Sorts();
         promise45Overlap();
         asked();
         DUE.end();
@@ -210,6 +212,25 @@ public final class EdgeTest {
         due("8 two without a seat", x.seat(0, -1, 0) + x.seat(1, -1, 0), 2);
     }
 
+    /** Each seat, had by each candidate: nobody else can have it, and the next ones are free. */
+    private static void promise8Each() {
+        for (int seat = 0; seat < 100; seat++) {
+            int row = seat / 10;
+            int place = seat % 10;
+            int had = seat % 8;
+            CopyBench x = Benches.with(1, 8);
+            due("8 seat " + seat, x.seat(had, row, place), 1);
+            due("8 its row and place", 10 * x.of(had, 2) + x.of(had, 3), seat);
+            for (int other = 0; other < 8; other++) {
+                due("8 " + other + " takes seat " + seat, x.seat(other, row, place), other == had ? 1 : -3);
+            }
+            int next = (had + 1) % 8;
+            due("8 the next place of " + seat, x.seat(next, row, (place + 1) % 10), 1);
+            due("8 the next row of " + seat, x.seat(next, (row + 1) % 10, place), 1);
+            due("8 turned around", x.seat(next, place, row), row == place ? -3 : 1);
+        }
+    }
+
     private static void promise9() {
         CopyBench x = Benches.with(1, 1);
         for (int sign : new int[] {0, 127, 1, 126}) {
@@ -303,6 +324,15 @@ public final class EdgeTest {
         due("10 its last letter", z.answer(3, 7), 3);
         due("10 the longest, and one more", Benches.tell(z, "0bbbbbbbb;1bbbbbbbb;2bbbbbbbb;3bbbbbbbbb"), -49);
         due("10 none of it became so", z.answer(0, 0), 0);
+        String three = "0bbbbbbbb;1bbbbbbbb;2bbbbbbbb";
+        due("10 three of the longest end with ;", Benches.tell(z, three + ";"), -10 - 30);
+        due("10 three of the longest and a digit", Benches.tell(z, three + ";3"), -10 - 31);
+        due("10 four of the longest end with ;", Benches.tell(z, three + ";3bbbbbbbb;"), -10 - 39);
+        due("10 none of these became so", z.answer(0, 7) + z.answer(2, 0), 2);
+        for (int end = 0; end < three.length(); end++) {
+            boolean whole = end % 10 > 1;
+            due("10 the first " + end, Benches.tell(z, three.substring(0, end)), whole ? end / 10 + 1 : -10 - end);
+        }
     }
 
     private static void promise10Whole() {
@@ -762,6 +792,22 @@ public final class EdgeTest {
         due("45 one into none", y.shift(0, 0, 2, 0, 1), -13);
         due("45 none at both ends", y.shift(0, 5, 1, 2, 0), 0);
         due("45 nothing changed by these", 10 * y.peek(0, 0) + y.peek(1, 1), 15);
+    }
+
+    private static void promise45Sorts() {
+        for (int sort = 0; sort < 5; sort++) {
+            for (int other = 0; other < 5; other++) {
+                CopyBench x = new CopyBench();
+                x.tape(0, sort, 3);
+                x.tape(1, other, 3);
+                x.item(0, 2, 1);
+                for (int n = 0; n < 4; n++) {
+                    String told = "45 " + n + " of sort " + sort + " to sort " + other;
+                    due(told, x.shift(0, 0, 1, 0, n), sort == other ? n : -12);
+                    due(told + ", the last item", x.peek(1, 2), sort == other && n == 3 ? 1 : 0);
+                }
+            }
+        }
     }
 
     private static void promise45Overlap() {

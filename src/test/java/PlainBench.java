@@ -29,6 +29,10 @@ public final class PlainBench {
             return of(above.multiply(other.below).add(other.above.multiply(below)), below.multiply(other.below));
         }
 
+        boolean is() {
+            return above.signum() > 0;
+        }
+
         long half(int part) {
             return (part == 0 ? above : below).longValueExact();
         }
@@ -395,16 +399,20 @@ public final class PlainBench {
                 continue;
             }
             int[] shares = shares(w, i, x, y);
+            Map<Integer, Part> alike = new TreeMap<>();
             Map<Integer, Part> next = new TreeMap<>();
             for (int a = 0; a < 4; a++) {
-                for (int b = 0; b < 4; b++) {
-                    Part ofOne = by >= 2 ? Part.of(a == one ? 1 : 0, 1) : chance(shares, w.right[i], one, a, by == 1);
+                Part ofOne = by >= 2 ? Part.of(a == one ? 1 : 0, 1) : chance(shares, w.right[i], one, a, by == 1);
+                for (int b = 0; b < 4 && ofOne.is(); b++) {
                     Part both = ofOne.times(chance(shares, w.right[i], other, b, by == 1 || by == 3));
                     int worth = a != b ? 0 : w.used[a == w.right[i] ? 4 : 5];
-                    if (both.above().signum() > 0) {
-                        for (Map.Entry<Integer, Part> had : all.entrySet()) {
-                            next.merge(had.getKey() + worth, had.getValue().times(both), Part::plus);
-                        }
+                    alike.merge(worth, both, Part::plus);
+                }
+            }
+            for (Map.Entry<Integer, Part> here : alike.entrySet()) {
+                for (Map.Entry<Integer, Part> had : all.entrySet()) {
+                    if (here.getValue().is()) {
+                        next.merge(had.getKey() + here.getKey(), had.getValue().times(here.getValue()), Part::plus);
                     }
                 }
             }
@@ -477,8 +485,8 @@ public final class PlainBench {
             for (int y = x + 1; y < w.sheets.size(); y++) {
                 if (reach == 0 || near(w.sheets.get(x).seat, w.sheets.get(y).seat, reach)) {
                     Part odds = odds(w, x, y, by, -1);
-                    Part turned = odds(w, y, x, by, -1);
-                    all.add(new Two(x, y, by >= 2 && turned.compareTo(odds) < 0 ? turned : odds));
+                    Part turned = by < 2 ? odds : odds(w, y, x, by, -1);
+                    all.add(new Two(x, y, turned.compareTo(odds) < 0 ? turned : odds));
                 }
             }
         }
